@@ -1,41 +1,14 @@
 /** For each promise: ordinary inputs, the edges that the document names, and wrong inputs. */
-public final class PromisesTest {
-    private static final int BAD_ARG = -1;
-    private static final int FULL = -2;
-    private static final int NONE = -4;
-    private static final int[] NO_LETTERS = {-1, 4, 5, 256, -4, Integer.MIN_VALUE, Integer.MAX_VALUE};
-    private static final Checks checks = new Checks();
+public final class PromisesTest extends Cases {
+    private static final int[] NO_LETTERS = {-1, 4, 5, 256, -4, LEAST, MOST};
 
-    private static SeaweedWindows made(String a, String b) {
-        SeaweedWindows x = new SeaweedWindows();
-        for (int i = 0; i < a.length(); i++) {
-            x.growA(a.charAt(i) - '0');
-        }
-        for (int i = 0; i < b.length(); i++) {
-            x.growB(b.charAt(i) - '0');
-        }
-        return x;
-    }
-
-    /** Reads both words out of x; B is empty afterwards and A all 0. */
-    private static void wordsAre(String when, SeaweedWindows x, String a, String b) {
-        checks.due("lengths() " + when, x.lengths(), a.length() + 16 * b.length());
-        for (int i = 0; i < a.length(); i++) {
-            checks.due("letter " + i + " of A " + when, x.putA(i, 0), a.charAt(i) - '0');
-        }
-        for (int i = 0; i < b.length(); i++) {
-            checks.due("letter " + i + " of B " + when, x.shiftB(), b.charAt(i) - '0');
-        }
-        checks.due("B's end " + when, x.shiftB(), NONE);
-    }
-
-    private static void theConstants() {
+    static void termsTheConstants() {
         checks.due("BAD_ARG", SeaweedWindows.BAD_ARG, BAD_ARG);
         checks.due("FULL", SeaweedWindows.FULL, FULL);
         checks.due("NONE", SeaweedWindows.NONE, NONE);
     }
 
-    private static void promise1NewObject() {
+    static void promise01NewObject() {
         wordsAre("when new", new SeaweedWindows(), "", "");
         SeaweedWindows one = made("01", "23");
         SeaweedWindows other = new SeaweedWindows();
@@ -43,7 +16,7 @@ public final class PromisesTest {
         wordsAre("beside a newer object", one, "01", "23");
     }
 
-    private static void promise2GrowA() {
+    static void promise02GrowA() {
         SeaweedWindows x = new SeaweedWindows();
         for (int i = 0; i < 10; i++) {
             checks.due("growA " + i, x.growA(i & 3), i + 1);
@@ -62,7 +35,7 @@ public final class PromisesTest {
         wordsAre("after refused growA", y, "", "");
     }
 
-    private static void promise3GrowB() {
+    static void promise03GrowB() {
         SeaweedWindows x = new SeaweedWindows();
         for (int i = 0; i < 14; i++) {
             checks.due("growB " + i, x.growB(i & 3), i + 1);
@@ -81,7 +54,7 @@ public final class PromisesTest {
         wordsAre("after refused growB", y, "", "");
     }
 
-    private static void promise4PutA() {
+    static void promise04PutA() {
         SeaweedWindows x = made("0123", "3210321");
         checks.due("putA(0, 3)", x.putA(0, 3), 0);
         checks.due("putA(3, 0)", x.putA(3, 0), 3);
@@ -89,8 +62,8 @@ public final class PromisesTest {
         checks.due("putA(0, 2)", x.putA(0, 2), 3);
         checks.due("putA(4, 0)", x.putA(4, 0), BAD_ARG);
         checks.due("putA(-1, 0)", x.putA(-1, 0), BAD_ARG);
-        checks.due("putA(least, 0)", x.putA(Integer.MIN_VALUE, 0), BAD_ARG);
-        checks.due("putA(most, 0)", x.putA(Integer.MAX_VALUE, 0), BAD_ARG);
+        checks.due("putA(least, 0)", x.putA(LEAST, 0), BAD_ARG);
+        checks.due("putA(most, 0)", x.putA(MOST, 0), BAD_ARG);
         for (int c : NO_LETTERS) {
             checks.due("putA(1, " + c + ")", x.putA(1, c), BAD_ARG);
         }
@@ -102,7 +75,7 @@ public final class PromisesTest {
         wordsAre("after putA when full", full, "0123012302", "");
     }
 
-    private static void promise5ShiftB() {
+    static void promise05ShiftB() {
         checks.due("shiftB when new", new SeaweedWindows().shiftB(), NONE);
         SeaweedWindows x = made("12", "01230123012301");
         checks.due("shiftB", x.shiftB(), 0);
@@ -115,7 +88,7 @@ public final class PromisesTest {
         wordsAre("after shiftB", x, "12", "23012301230133");
     }
 
-    private static void promise6Clear() {
+    static void promise06Clear() {
         SeaweedWindows x = made("0123012301", "01230123012301");
         x.clear();
         checks.due("commonB after clear", x.commonB(0, 0), 0);
@@ -132,7 +105,7 @@ public final class PromisesTest {
         wordsAre("after clear when new", z, "", "");
     }
 
-    private static void promise7Lengths() {
+    static void promise07Lengths() {
         checks.due("lengths", made("", "").lengths(), 0);
         checks.due("lengths", made("012", "").lengths(), 3);
         checks.due("lengths", made("", "012").lengths(), 48);
@@ -140,7 +113,7 @@ public final class PromisesTest {
         checks.due("lengths", made("0123012301", "01230123012301").lengths(), 234);
     }
 
-    private static void promise8CommonB() {
+    static void promise08CommonB() {
         SeaweedWindows x = made("0123", "32103210");
         checks.due("commonB(0, 8)", x.commonB(0, 8), 2);
         checks.due("commonB(0, 4)", x.commonB(0, 4), 1);
@@ -151,8 +124,8 @@ public final class PromisesTest {
         checks.due("commonB(4, 3)", x.commonB(4, 3), BAD_ARG);
         checks.due("commonB(9, 9)", x.commonB(9, 9), BAD_ARG);
         checks.due("commonB(-1, -1)", x.commonB(-1, -1), BAD_ARG);
-        checks.due("commonB(least, most)", x.commonB(Integer.MIN_VALUE, Integer.MAX_VALUE), BAD_ARG);
-        checks.due("commonB(most, most)", x.commonB(Integer.MAX_VALUE, Integer.MAX_VALUE), BAD_ARG);
+        checks.due("commonB(least, most)", x.commonB(LEAST, MOST), BAD_ARG);
+        checks.due("commonB(most, most)", x.commonB(MOST, MOST), BAD_ARG);
         // A letter of A serves once, however often B has it.
         checks.due("commonB of one letter", made("0", "000").commonB(0, 3), 1);
         checks.due("commonB of the same", made("0123012301", "01230123012301").commonB(0, 14), 10);
@@ -160,7 +133,7 @@ public final class PromisesTest {
         checks.due("commonB beyond m", made("0", "0000").commonB(2, 4), 1);
     }
 
-    private static void promise9CommonA() {
+    static void promise09CommonA() {
         SeaweedWindows x = made("32103210", "0123");
         checks.due("commonA(0, 8)", x.commonA(0, 8), 2);
         checks.due("commonA(0, 4)", x.commonA(0, 4), 1);
@@ -170,12 +143,12 @@ public final class PromisesTest {
         checks.due("commonA(-1, 3)", x.commonA(-1, 3), BAD_ARG);
         checks.due("commonA(4, 3)", x.commonA(4, 3), BAD_ARG);
         checks.due("commonA(9, 9)", x.commonA(9, 9), BAD_ARG);
-        checks.due("commonA(least, most)", x.commonA(Integer.MIN_VALUE, Integer.MAX_VALUE), BAD_ARG);
+        checks.due("commonA(least, most)", x.commonA(LEAST, MOST), BAD_ARG);
         // B has the place 5 but A has not.
         checks.due("commonA(0, 5)", made("01", "012301").commonA(0, 5), BAD_ARG);
     }
 
-    private static void promise10CommonEnd() {
+    static void promise10CommonEnd() {
         SeaweedWindows x = made("0012", "1200");
         checks.due("commonEnd(2, 2)", x.commonEnd(2, 2), 2);
         checks.due("commonEnd(4, 4)", x.commonEnd(4, 4), 2);
@@ -188,13 +161,13 @@ public final class PromisesTest {
         checks.due("commonEnd(4, 5)", x.commonEnd(4, 5), BAD_ARG);
         checks.due("commonEnd(-1, 4)", x.commonEnd(-1, 4), BAD_ARG);
         checks.due("commonEnd(4, -1)", x.commonEnd(4, -1), BAD_ARG);
-        checks.due("commonEnd(least, 0)", x.commonEnd(Integer.MIN_VALUE, 0), BAD_ARG);
-        checks.due("commonEnd(0, most)", x.commonEnd(0, Integer.MAX_VALUE), BAD_ARG);
+        checks.due("commonEnd(least, 0)", x.commonEnd(LEAST, 0), BAD_ARG);
+        checks.due("commonEnd(0, most)", x.commonEnd(0, MOST), BAD_ARG);
         checks.due("commonEnd(3, 1) of the shorter A", made("00", "0000").commonEnd(3, 1), BAD_ARG);
         checks.due("commonEnd(1, 4) of the shorter A", made("00", "1110").commonEnd(1, 4), 1);
     }
 
-    private static void promise11CommonBegin() {
+    static void promise11CommonBegin() {
         SeaweedWindows x = made("1200", "0012");
         checks.due("commonBegin(2, 2)", x.commonBegin(2, 2), 2);
         checks.due("commonBegin(4, 4)", x.commonBegin(4, 4), 2);
@@ -207,13 +180,13 @@ public final class PromisesTest {
         checks.due("commonBegin(4, 5)", x.commonBegin(4, 5), BAD_ARG);
         checks.due("commonBegin(-1, 4)", x.commonBegin(-1, 4), BAD_ARG);
         checks.due("commonBegin(4, -1)", x.commonBegin(4, -1), BAD_ARG);
-        checks.due("commonBegin(0, least)", x.commonBegin(0, Integer.MIN_VALUE), BAD_ARG);
-        checks.due("commonBegin(most, 0)", x.commonBegin(Integer.MAX_VALUE, 0), BAD_ARG);
+        checks.due("commonBegin(0, least)", x.commonBegin(0, LEAST), BAD_ARG);
+        checks.due("commonBegin(most, 0)", x.commonBegin(MOST, 0), BAD_ARG);
         checks.due("commonBegin(3, 1) of the shorter A", made("00", "0000").commonBegin(3, 1), BAD_ARG);
         checks.due("commonBegin(1, 4) of the shorter A", made("01", "0111").commonBegin(1, 4), 1);
     }
 
-    private static void promise12ChangesB() {
+    static void promise12ChangesB() {
         SeaweedWindows x = made("0123", "01323");
         checks.due("changesB(0, 5), one put in", x.changesB(0, 5), 1);
         checks.due("changesB(0, 4), one in another's place and one more", x.changesB(0, 4), 2);
@@ -226,11 +199,11 @@ public final class PromisesTest {
         checks.due("changesB(-1, 2)", x.changesB(-1, 2), BAD_ARG);
         checks.due("changesB(3, 2)", x.changesB(3, 2), BAD_ARG);
         checks.due("changesB(6, 6)", x.changesB(6, 6), BAD_ARG);
-        checks.due("changesB(least, most)", x.changesB(Integer.MIN_VALUE, Integer.MAX_VALUE), BAD_ARG);
+        checks.due("changesB(least, most)", x.changesB(LEAST, MOST), BAD_ARG);
         checks.due("changesB of the longest", made("0000000000", "11111111111111").changesB(0, 14), 14);
     }
 
-    private static void promise13ChangesA() {
+    static void promise13ChangesA() {
         SeaweedWindows x = made("01323", "0123");
         checks.due("changesA(0, 5), one taken out", x.changesA(0, 5), 1);
         checks.due("changesA(0, 4)", x.changesA(0, 4), 2);
@@ -242,12 +215,12 @@ public final class PromisesTest {
         checks.due("changesA(-1, 2)", x.changesA(-1, 2), BAD_ARG);
         checks.due("changesA(3, 2)", x.changesA(3, 2), BAD_ARG);
         checks.due("changesA(6, 6)", x.changesA(6, 6), BAD_ARG);
-        checks.due("changesA(least, most)", x.changesA(Integer.MIN_VALUE, Integer.MAX_VALUE), BAD_ARG);
+        checks.due("changesA(least, most)", x.changesA(LEAST, MOST), BAD_ARG);
         checks.due("changesA of the longest", made("0000000000", "11111111111111").changesA(0, 10), 14);
         checks.due("changesA(0, 3) of the shorter A", made("01", "0123").changesA(0, 3), BAD_ARG);
     }
 
-    private static void promise14Nearest() {
+    static void promise14Nearest() {
         checks.due("nearest when new", made("", "").nearest(), 0);
         checks.due("nearest of empty A", made("", "012").nearest(), 0);
         checks.due("nearest of empty B", made("012", "").nearest(), 3);
@@ -258,7 +231,7 @@ public final class PromisesTest {
         checks.due("nearest of the short B", made("0123", "12").nearest(), 2);
     }
 
-    private static void promise15NearestAt() {
+    static void promise15NearestAt() {
         checks.due("nearestAt when new", made("", "").nearestAt(), 0);
         checks.due("nearestAt of empty A", made("", "012").nearestAt(), 0);
         checks.due("nearestAt of empty B", made("012", "").nearestAt(), 0);
@@ -272,7 +245,7 @@ public final class PromisesTest {
         checks.due("nearestAt the last letter", made("0", "11111111111110").nearestAt(), 16 * 13 + 14);
     }
 
-    private static void promise16Shortest() {
+    static void promise16Shortest() {
         SeaweedWindows x = made("012", "0313202312");
         checks.due("shortest(1)", x.shortest(1), 1);
         checks.due("shortest(2)", x.shortest(2), 2);
@@ -280,15 +253,15 @@ public final class PromisesTest {
         checks.due("shortest(4)", x.shortest(4), NONE);
         checks.due("shortest(0)", x.shortest(0), 0);
         checks.due("shortest(-1)", x.shortest(-1), 0);
-        checks.due("shortest(least)", x.shortest(Integer.MIN_VALUE), 0);
-        checks.due("shortest(most)", x.shortest(Integer.MAX_VALUE), NONE);
+        checks.due("shortest(least)", x.shortest(LEAST), 0);
+        checks.due("shortest(most)", x.shortest(MOST), NONE);
         checks.due("shortest of all B", made("01", "0222222222221").shortest(2), 13);
         checks.due("shortest(0) when new", made("", "").shortest(0), 0);
         checks.due("shortest(-5) when new", made("", "").shortest(-5), 0);
         checks.due("shortest(1) when new", made("", "").shortest(1), NONE);
     }
 
-    private static void promise17Widest() {
+    static void promise17Widest() {
         SeaweedWindows x = made("012", "3331033122");
         checks.due("widest(0)", x.widest(0), 0);
         checks.due("widest(1)", x.widest(1), 1);
@@ -298,15 +271,15 @@ public final class PromisesTest {
         checks.due("widest(10)", x.widest(10), 3);
         checks.due("widest(11)", x.widest(11), NONE);
         checks.due("widest(-1)", x.widest(-1), NONE);
-        checks.due("widest(least)", x.widest(Integer.MIN_VALUE), NONE);
-        checks.due("widest(most)", x.widest(Integer.MAX_VALUE), NONE);
+        checks.due("widest(least)", x.widest(LEAST), NONE);
+        checks.due("widest(most)", x.widest(MOST), NONE);
         checks.due("widest(0) when new", made("", "").widest(0), 0);
         checks.due("widest(1) when new", made("", "").widest(1), NONE);
         checks.due("widest at the end", made("01", "2222201").widest(2), 2);
         checks.due("widest(14)", made("0123012301", "01230123012301").widest(14), 10);
     }
 
-    private static void promise18Rotated() {
+    static void promise18Rotated() {
         checks.due("rotated when new", made("", "").rotated(), 0);
         checks.due("rotated of empty B", made("0123", "").rotated(), 0);
         checks.due("rotated of empty A", made("", "0123").rotated(), 0);
@@ -324,7 +297,7 @@ public final class PromisesTest {
         checks.due("rotated after shiftB", x.rotated(), 2);
     }
 
-    private static void promise19Tight() {
+    static void promise19Tight() {
         checks.due("tight when new", made("", "").tight(), 1);
         checks.due("tight of empty A", made("", "0123").tight(), 5);
         checks.due("tight of empty B", made("0123", "").tight(), 1);
@@ -338,27 +311,7 @@ public final class PromisesTest {
         checks.due("tight of the longest", made("0000000000", "00000000000000").tight(), 110);
     }
 
-    public static void main(String[] args) {
-        theConstants();
-        promise1NewObject();
-        promise2GrowA();
-        promise3GrowB();
-        promise4PutA();
-        promise5ShiftB();
-        promise6Clear();
-        promise7Lengths();
-        promise8CommonB();
-        promise9CommonA();
-        promise10CommonEnd();
-        promise11CommonBegin();
-        promise12ChangesB();
-        promise13ChangesA();
-        promise14Nearest();
-        promise15NearestAt();
-        promise16Shortest();
-        promise17Widest();
-        promise18Rotated();
-        promise19Tight();
-        checks.end();
+    public static void main(String[] args) throws IllegalAccessException {
+        runAll(PromisesTest.class);
     }
 }

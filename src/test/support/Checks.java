@@ -1,8 +1,27 @@
 /** Counts the answers that are not the ones that are due. */
 final class Checks {
-    private static final int MOST_PRINTED = 50;
+    private static final int MOST_PRINTED_OF_A_TEST = 20;
+    private String test = "";
+    private int tests = 0;
     private int made = 0;
+    private int madeBefore = 0;
     private int wrong = 0;
+    private int printed = 0;
+
+    /** What is looked at from here on belongs to the test of this name. */
+    void begin(String name) {
+        test = name + ": ";
+        tests++;
+        madeBefore = made;
+        printed = 0;
+    }
+
+    void finish() {
+        if (made == madeBefore) {
+            holds("looks at an answer", false);
+        }
+        test = "";
+    }
 
     void due(String call, long got, long want) {
         made++;
@@ -10,8 +29,9 @@ final class Checks {
             return;
         }
         wrong++;
-        if (wrong <= MOST_PRINTED) {
-            System.out.println(call + " answered " + got + ", due is " + want);
+        printed++;
+        if (printed <= MOST_PRINTED_OF_A_TEST) {
+            System.out.println(test + call + " answered " + got + ", due is " + want);
         }
     }
 
@@ -20,7 +40,8 @@ final class Checks {
     }
 
     void end() {
-        System.out.println(made + " answers looked at, " + wrong + " not as due");
+        String in = tests == 0 ? "" : " in " + tests + " tests";
+        System.out.println(made + " answers looked at" + in + ", " + wrong + " not as due");
         if (wrong != 0 || made == 0) {
             System.exit(1);
         }
